@@ -563,6 +563,45 @@ public final class Patiencery {
             }
         }
 
+        // ---- a position in few numbers: five bits for what a card lies on, or for the card on top
+
+        /** What the cards from the first one on lie on, behind a head that is small and not below 0. */
+        long packed(int head, int first, int end) {
+            long packed = head;
+            for (int card = Math.max(first, 0); card < end && card < lies.length; card++) {
+                packed = packed << 5 | lies[card];
+            }
+            return packed;
+        }
+
+        /** Lays these cards as they were packed, and returns the head. */
+        int unpacked(long packed, int first, int end) {
+            long rest = packed;
+            for (int card = Math.min(end, lies.length) - 1; card >= first && card >= 0; card--) {
+                lies[card] = (int) (rest & 31);
+                rest >>= 5;
+            }
+            return (int) rest;
+        }
+
+        long packedTops() {
+            long packed = 0;
+            for (int place = 0; place < tops.length; place++) {
+                packed = packed << 5 | tops[place] + 1;
+            }
+            return packed;
+        }
+
+        void unpackTops(long packed) {
+            long rest = packed;
+            for (int place = tops.length - 1; place >= 0; place--) {
+                tops[place] = (int) (rest & 31) - 1;
+                rest >>= 5;
+            }
+        }
+
+        // ---- what lies where
+
         int topOf(int place) {
             return place >= 0 && place < PLACES ? tops[place] : NONE;
         }
@@ -577,7 +616,7 @@ public final class Patiencery {
             return at(lies, card) == ON_FOUNDATIONS;
         }
 
-        boolean lieHidden(int card) {
+        boolean liesHidden(int card) {
             return isCard(card) && (hidden >> card & 1) == 1;
         }
 
@@ -633,7 +672,7 @@ public final class Patiencery {
                 return NONE;
             }
             int card = fromTop(column, height - 1 - depth);
-            return lieHidden(card) ? UNKNOWN : card;
+            return liesHidden(card) ? UNKNOWN : card;
         }
 
         // ---- what is a move
@@ -680,7 +719,7 @@ public final class Patiencery {
             int card = topOf(column);
             int run = card == NONE ? 0 : 1;
             int ahead = under(card);
-            while (ahead != NONE && run < MOST_CARDS && !lieHidden(ahead) && rules.isFitting(card, ahead)) {
+            while (ahead != NONE && run < MOST_CARDS && !liesHidden(ahead) && rules.isFitting(card, ahead)) {
                 run++;
                 card = ahead;
                 ahead = under(card);
@@ -703,6 +742,9 @@ public final class Patiencery {
         void listMoves() {
             listed = 0;
             for (int from = 0; from < PLACES; from++) {
+                if (topOf(from) == NONE && from != STOCK) {
+                    continue;
+                }
                 int run = isColumn(from) ? runOf(from) : 1;
                 for (int to = 0; to <= FOUNDATIONS; to++) {
                     int most = isColumn(to) ? run : 1;
@@ -788,7 +830,7 @@ public final class Patiencery {
                 case STOCK:
                     return FLOOR_OF_STOCK;
                 default:
-                    return isCell(place) ? FLOOR_OF_CELL : FLOOR_OF_COLUMN;
+                    return place < FIRST_CELL ? FLOOR_OF_COLUMN : FLOOR_OF_CELL;
             }
         }
     }
@@ -813,40 +855,18 @@ public final class Patiencery {
             if (!isRow(row)) {
                 return;
             }
-            long low = table.hidden;
-            long high = table.turned;
-            for (int card = 0; card < MOST_CARDS / 2; card++) {
-                low = low << 5 | at(table.lies, card);
-                high = high << 5 | at(table.lies, card + MOST_CARDS / 2);
-            }
-            long place = 0;
-            for (int next = 0; next < PLACES; next++) {
-                place = place << 5 | table.topOf(next) + 1;
-            }
-            lows[row] = low;
-            highs[row] = high;
-            places[row] = place;
+            lows[row] = table.packed(table.hidden, 0, MOST_CARDS / 2);
+            highs[row] = table.packed(table.turned, MOST_CARDS / 2, MOST_CARDS);
+            places[row] = table.packedTops();
         }
 
         void fetch(int row, Table table) {
             if (!isRow(row)) {
                 return;
             }
-            long low = lows[row];
-            long high = highs[row];
-            for (int card = MOST_CARDS / 2 - 1; card >= 0; card--) {
-                put(table.lies, card, (int) (low & 31));
-                put(table.lies, card + MOST_CARDS / 2, (int) (high & 31));
-                low >>= 5;
-                high >>= 5;
-            }
-            table.hidden = (int) low;
-            table.turned = (int) high;
-            long place = places[row];
-            for (int next = PLACES - 1; next >= 0; next--) {
-                put(table.tops, next, (int) (place & 31) - 1);
-                place >>= 5;
-            }
+            table.hidden = table.unpacked(lows[row], 0, MOST_CARDS / 2);
+            table.turned = table.unpacked(highs[row], MOST_CARDS / 2, MOST_CARDS);
+            table.unpackTops(places[row]);
         }
 
         boolean areSame(int row, int other) {
@@ -871,6 +891,7 @@ public final class Patiencery {
     private static final class Searcher {
         final Table table = new Table();
         int count = 0;
+        private final Table origin = new Table();
         private final Shelf shelf = new Shelf(MOST_KNOWN + 1);
         private final int[] steps = new int[MOST_KNOWN + 1];
         private final int[] newest = new int[BUCKETS];
@@ -879,18 +900,19 @@ public final class Patiencery {
         int run(int bound) {
             Arrays.fill(newest, NONE);
             count = 0;
-            shelf.keep(count, table);
+            origin.copyFrom(table);
+            shelf.keep(0, table);
             makeKnown(0);
             if (table.isWon()) {
                 return 0;
             }
             for (int row = 0; row < count && row < bound; row++) {
                 int step = at(steps, row) + 1;
-                shelf.fetch(row, table);
-                table.listMoves();
-                for (int next = 0; next < table.listed; next++) {
-                    shelf.fetch(row, table);
-                    table.play(table.listedAt(next));
+                shelf.fetch(row, origin);
+                origin.listMoves();
+                for (int next = 0; next < origin.listed; next++) {
+                    table.copyFrom(origin);
+                    table.play(origin.listedAt(next));
                     shelf.keep(count, table);
                     if (isKnownAlready()) {
                         continue;
