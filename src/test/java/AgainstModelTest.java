@@ -142,6 +142,59 @@ public final class AgainstModelTest {
         alike("undo(" + many + ")", () -> real.undo(many), () -> model.undo(many));
     }
 
+    /** All moves with up to six cards, there or not; those that are there are undone at once. */
+    private void tryAllMoves() {
+        for (int code = 0; code < 10000; code++) {
+            int from = code / 1000;
+            int to = code / 100 % 10;
+            int many = code % 100;
+            if (many < 7 && wrong == 0) {
+                int done = model.told(1);
+                alike("move(" + from + "," + to + "," + many + ")", () -> real.move(from, to, many),
+                    () -> model.move(from, to, many));
+                if (model.told(1) > done) {
+                    alike("undo(1)", () -> real.undo(1), () -> model.undo(1));
+                }
+            }
+        }
+    }
+
+    /** Rules with few cards, whose positions a hint can know all, and hints all the way. */
+    private void runWithHints() {
+        real = new Patiencery();
+        model = new Model();
+        int suits = 1 + some(3);
+        int ranks = suits == 1 ? 3 + some(3) : suits == 2 ? 2 + some(3) : 2;
+        int columns = 1 + some(3);
+        int cells = some(3);
+        int build = some(3);
+        int empty = some(3);
+        int cards = some(2) * some(4);
+        int again = some(3);
+        boolean hidden = some(2) == 0;
+        real.deck(suits, ranks);
+        model.deck(suits, ranks);
+        real.table(columns, cells, build, empty);
+        model.table(columns, cells, build, empty);
+        real.stock(Math.min(cards, suits * ranks - 1), again, hidden);
+        model.stock(Math.min(cards, suits * ranks - 1), again, hidden);
+        run = " deck(" + suits + "," + ranks + ") table(" + columns + "," + cells + "," + build + "," + empty + ") stock("
+            + cards + "," + again + "," + hidden + ")";
+        deal();
+        for (int n = 0; n < 12 && wrong == 0; n++) {
+            alike("hint()", () -> real.hint(), () -> model.hint());
+            alike("search(100)", () -> real.search(100), () -> model.search(100));
+            alike("known(100)", () -> real.known(100), () -> model.known(100));
+            int code = model.hint();
+            if (code != Model.NONE && some(3) != 0) {
+                alike("move" + code, () -> real.move(code / 1000, code / 100 % 10, code % 100),
+                    () -> model.move(code / 1000, code / 100 % 10, code % 100));
+            } else {
+                moveSomehow();
+            }
+        }
+    }
+
     private void call() {
         int kind = some(100);
         if (kind < 50) {
@@ -180,6 +233,7 @@ public final class AgainstModelTest {
             call();
         }
         seeAll();
+        tryAllMoves();
     }
 
     /** Many moves one behind the other, so that 200 are done, and play that is safe ends there too. */
@@ -212,7 +266,9 @@ public final class AgainstModelTest {
             long1.run(60);
             AgainstModelTest long2 = new AgainstModelTest(1000L * n + 8);
             long2.runToTheLastMove();
-            wrong += long1.wrong + long2.wrong;
+            AgainstModelTest hints = new AgainstModelTest(1000L * n + 9);
+            hints.runWithHints();
+            wrong += long1.wrong + long2.wrong + hints.wrong;
         }
         System.out.println(wrong == 0 ? "AgainstModelTest: all answers are alike" : "AgainstModelTest: " + wrong + " wrong");
         if (wrong != 0) {

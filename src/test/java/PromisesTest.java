@@ -83,6 +83,12 @@ public final class PromisesTest {
         // 6 is of rank 3, 1 of 2, 5 of 2, 7 of 4, 4 and 0 of 1, 2 of 3, 3 of 4
         s.due("by rank, two cells", Sheet.listed(x),
             "[102, 301, 402, 501, 601, 1501, 1601, 2001, 2501, 2601, 2801, 3101, 3401, 3501, 3601, 4501, 4601]");
+        x = Sheet.ruled(1, 3, 3, 0, BY_SUIT, ANY);
+        Sheet.dealing(x, 0, 1, 2);
+        x.move(0, 8, 1);
+        x.table(3, 0, BY_SUIT, NO_CARD);
+        s.due("any card still comes into the empty column", Sheet.listed(x), "[1001, 1201, 1801, 2001]");
+        x = new Patiencery();
         x.table(1, 0, BY_SUIT, ANY);
         x.deal(0, 0);
         s.due("one column, no cells", Sheet.shown(x), "[6 5 4 2 3 1 7 0][][][][]c[]c[]w[]f[. . . .]s[]");
@@ -102,6 +108,9 @@ public final class PromisesTest {
         s.due("7 of 8", x.deal(0, 0), 1);
         s.due("the last on the top", Sheet.shown(x), "[6][][][][]c[]c[]w[]f[. . . .]s[0 7 1 3 2 4 5]");
         x.deck(4, 4);
+        s.refused("stock(9, 0) of 16", x, () -> x.stock(9, 0, false));
+        s.refused("stock(-1, 0) of 16", x, () -> x.stock(-1, 0, false));
+        s.refused("stock(8, 3) of 16", x, () -> x.stock(8, 3, false));
         x.stock(8, 0, true);
         s.due("8 of 16", x.deal(0, 617), 8);
         s.due("hidden", Sheet.shown(x), "[? ? 3][? ? 2][? 13][][]c[]c[]w[]f[. . . .]s[6 9 14 1 4 11 8 15]");
@@ -113,6 +122,14 @@ public final class PromisesTest {
         s.refused("stock(2, 0) of 2", x, () -> x.stock(2, 0, false));
         x.stock(1, 0, false);
         s.due("1 of 2", x.deal(0, 1), 1);
+        x.move(9, 7, 1);
+        x.stock(1, 2, false);
+        s.due("the deal may not be turned over for that", Sheet.listed(x), "[101, 201, 501, 7101, 7201, 7501, 7801]");
+        x.deal(0, 1);
+        x.move(9, 7, 1);
+        x.stock(1, 0, false);
+        s.due("the deal may be turned over still", Sheet.listed(x),
+            "[101, 201, 501, 7101, 7201, 7501, 7801, 9701]");
     }
 
     private void deal() {
@@ -141,8 +158,12 @@ public final class PromisesTest {
         x.undo(1);
         x.move(7, 8, 1);
         s.due("told", Sheet.told(x), "2 3 1 0 5 5 0 0");
+        x.undo(1);
+        x.move(9, 7, 1);
+        x.move(9, 7, 1);
+        s.due("told", Sheet.told(x), "1 4 2 1 -3 -3 0 0");
         x.deal(0, 3);
-        s.due("all begins anew but the money of the session", Sheet.told(x), "0 0 0 0 0 5 0 0");
+        s.due("all begins anew but the money of the session", Sheet.told(x), "0 0 0 0 0 -3 0 0");
         s.due("nothing to undo", x.undo(1), 0);
     }
 
@@ -256,6 +277,16 @@ public final class PromisesTest {
         s.due("two by a cell", x.move(0, 1, 2), 0);
         s.due("shown", Sheet.shown(x), "[][3 2 1 0][][][]c[]c[]w[]f[. . . .]s[]");
         s.due("the column to which they come does not count", Sheet.listed(x), "[1001, 1002, 1501, 1801]");
+        x.table(2, 2, BY_SUIT, ANY);
+        Sheet.dealing(x, 2, 3, 1, 0);
+        s.due("dealt", Sheet.shown(x), "[2 1][3 0][][][]c[]c[]w[]f[. . . .]s[]");
+        x.move(1, 5, 1);
+        s.due("both fit", Sheet.listed(x), "[102, 601, 1601, 5001, 5801]");
+        x.undo(1);
+        Sheet.dealing(x, 2, 3, 0, 1);
+        s.due("dealt", Sheet.shown(x), "[2 0][3 1][][][]c[]c[]w[]f[. . . .]s[]");
+        x.move(1, 5, 1);
+        stateRefused("2 fits on 3, but 0 not on 2", x, () -> x.move(0, 1, 2));
         x.table(2, 0, BY_SUIT, ANY);
         Sheet.dealing(x, 1, 3, 0, 2);
         stateRefused("two without a free place", x, () -> x.move(0, 1, 2));
@@ -305,7 +336,21 @@ public final class PromisesTest {
         s.due("told(7)", x.told(7), 2);
         x.move(1, 5, 1);
         s.due("shown", Sheet.shown(x), "[? 1 0][3][][][]c[4]c[]w[]f[. . . .]s[]");
-        s.due("none hidden is moved, though it would fit", Sheet.listed(x), "[801]");
+        s.due("listed", Sheet.listed(x), "[801]");
+        x.table(2, 2, BY_SUIT, ANY);
+        // [2 1] with 2 hidden, [3 0] with 3 hidden
+        Sheet.dealing(x, 2, 3, 1, 0, 4);
+        s.due("dealt", Sheet.shown(x), "[? ? 4][? 0][][][]c[]c[]w[]f[. . . .]s[]");
+        x.move(1, 5, 1);
+        x.move(0, 6, 1);
+        s.due("turned", Sheet.shown(x), "[? 1][3][][][]c[0]c[4]w[]f[. . . .]s[]");
+        x.table(2, 1, BY_SUIT, ANY);
+        x.deck(1, 4);
+        Sheet.dealing(x, 2, 3, 1, 0);
+        x.move(1, 8, 1);
+        s.due("2 fits on 3, and 1 on 2, but 2 lies hidden", Sheet.shown(x) + Sheet.listed(x),
+            "[? 1][3][][][]c[]c[]w[]f[0 . . .]s[][501, 801, 1501]");
+        stateRefused("none hidden", x, () -> x.move(0, 1, 2));
     }
 
     private void moveStock() {
@@ -599,6 +644,10 @@ public final class PromisesTest {
         x.stock(0, 0, false);
         Sheet.dealing(x, 1, 0);
         searched("not hidden", x, new int[][] {{4, UNKNOWN, 4}, {5, 2, 5}});
+        // [1], 0 in the stock: a cell and the waste are not alike
+        x = Sheet.ruled(1, 2, 1, 1, BY_SUIT, NO_CARD, 1, 0);
+        Sheet.dealing(x, 1, 0);
+        searched("cell and waste", x, new int[][] {{8, UNKNOWN, 8}, {9, 3, 9}});
         x = new Patiencery();
         searched("at first", x, new int[][] {{20, UNKNOWN, 20}, {150, UNKNOWN, 150}, {151, 9, 151}, {400, 9, 151}});
         String before = Sheet.shown(x) + Sheet.told(x);
@@ -640,6 +689,30 @@ public final class PromisesTest {
         s.due("from the stock", x.hint(), 9701);
         x.move(9, 7, 1);
         s.due("not the first move, but one that is shorter", Sheet.listed(x) + x.hint(), "[7001, 9701]9701");
+        // the bound is 100
+        x = Sheet.ruled(2, 2, 1, 2, BY_COLOUR, HIGHEST, 2, 1);
+        x.deal(0, 7);
+        searched("100 positions", x, new int[][] {{99, UNKNOWN, 99}, {100, 6, 100}});
+        s.due("100 positions", x.hint(), 9701);
+        x = Sheet.ruled(2, 2, 1, 2, BY_COLOUR, NO_CARD, 2, 1);
+        x.deal(0, 4);
+        searched("101 positions", x, new int[][] {{100, UNKNOWN, 100}, {101, 6, 101}});
+        s.due("101 positions", x.hint(), NONE);
+        // behind 501 there are more than 100 positions
+        x = Sheet.ruled(2, 2, 1, 2, BY_COLOUR, HIGHEST, 2, 1);
+        x.deal(0, 1);
+        s.due("not the first move, which is not known", Sheet.listed(x) + x.hint(), "[501, 601, 801, 9701]801");
+        x.move(0, 5, 1);
+        s.due("which is not known", x.search(100), UNKNOWN);
+        x = Sheet.ruled(2, 3, 2, 1, BY_COLOUR, ANY);
+        x.deal(0, 16);
+        s.due("shown", Sheet.shown(x), "[0 1 5][4 2 3][][][]c[]c[]w[]f[. . . .]s[]");
+        s.due("not the first move, which loses", Sheet.listed(x) + x.hint(), "[501, 1501, 1801]1801");
+        s.due("8 steps", x.search(100), 8);
+        x.move(0, 5, 1);
+        s.due("lost", x.search(100), LOST);
+        s.due("no hint in what is lost, though there are moves", x.moves() > 0 ? x.hint() : 0, NONE);
+        x.undo(1);
         String before = Sheet.shown(x) + Sheet.told(x);
         x.hint();
         s.due("nothing changes", Sheet.shown(x) + Sheet.told(x), before);
