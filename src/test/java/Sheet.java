@@ -11,6 +11,18 @@ final class Sheet {
         void make();
     }
 
+    interface Made {
+        Patiencery make();
+    }
+
+    interface On {
+        void call(Patiencery x);
+    }
+
+    interface OnValue {
+        void call(Patiencery x, int value);
+    }
+
     void due(String what, long got, long due) {
         looked++;
         if (got != due) {
@@ -42,6 +54,57 @@ final class Sheet {
 
     void refused(String what, Patiencery x, Call call) {
         refused(what, x, IllegalArgumentException.class, call);
+    }
+
+    /** Refused of one of two objects that are alike: they stay so, also by what they do from then on. */
+    void refusedAlike(String what, Made made, Class<? extends RuntimeException> due, On call) {
+        Patiencery x = made.make();
+        Patiencery y = made.make();
+        refused(what, x, due, () -> call.call(x));
+        due("what goes on behind " + what, goneOn(x), goneOn(y));
+    }
+
+    void taken(String what, Patiencery x, On call) {
+        String got = "nothing";
+        try {
+            call.call(x);
+        } catch (RuntimeException e) {
+            got = e.getClass().getSimpleName();
+        }
+        due(what + " throws", got, "nothing");
+    }
+
+    /** The least and the greatest value are taken; those beside them, and the farthest ones, are refused. */
+    void range(String what, Made made, int least, int greatest, OnValue call) {
+        for (int value : new int[] {least, greatest}) {
+            taken(what + " with " + value, made.make(), x -> call.call(x, value));
+        }
+        for (int value : new int[] {least - 1, greatest + 1, Integer.MIN_VALUE, Integer.MAX_VALUE}) {
+            refusedAlike(what + " with " + value, made, IllegalArgumentException.class, x -> call.call(x, value));
+        }
+    }
+
+    /** Some moves, all undone, the next deal and some moves again: what is told by the rules of both deals. */
+    static String goneOn(Patiencery x) {
+        String text = someMoves(x) + x.undo(200) + shown(x) + told(x) + x.deal(1, 9) + someMoves(x);
+        return text + x.undo(200) + shown(x) + told(x);
+    }
+
+    private static String someMoves(Patiencery x) {
+        StringBuilder text = new StringBuilder();
+        for (int n = 0; n < 12 && x.moves() > 0 && x.told(1) < 200; n++) {
+            int code = x.moveAt(n % x.moves());
+            text.append(code).append(' ');
+            play(x, code);
+        }
+        return text + shown(x) + told(x) + listed(x);
+    }
+
+    /** Does moves told as moveAt() tells them. */
+    static void play(Patiencery x, int... codes) {
+        for (int code : codes) {
+            x.move(code / 1000, code / 100 % 10, code % 100);
+        }
     }
 
     /** The columns [first .. last], the cells c, the waste w and the stock s from the top on, the foundations f. */
