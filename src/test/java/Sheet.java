@@ -74,9 +74,9 @@ final class Sheet {
         due(what + " throws", got, "nothing");
     }
 
-    /** The least and the greatest value are taken; those beside them, and the farthest ones, are refused. */
+    /** The least and the greatest value are taken, and those next to them; those beyond, and the farthest ones, are refused. */
     void range(String what, Made made, int least, int greatest, OnValue call) {
-        for (int value : new int[] {least, greatest}) {
+        for (int value : new int[] {least, Math.min(least + 1, greatest), Math.max(greatest - 1, least), greatest}) {
             taken(what + " with " + value, made.make(), x -> call.call(x, value));
         }
         for (int value : new int[] {least - 1, greatest + 1, Integer.MIN_VALUE, Integer.MAX_VALUE}) {
