@@ -336,7 +336,7 @@ public final class Patiencery {
     public int hint() {
         searcher.table.copyFrom(now);
         int least = searcher.run(KNOWN_OF_HINT);
-        // LOST less 1 is UNKNOWN: without this test a move from one into the other would look like a hint
+        // LOST and UNKNOWN are no numbers of moves, and LOST less 1 is UNKNOWN
         if (least < 1) {
             return NONE;
         }

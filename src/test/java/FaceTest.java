@@ -2,15 +2,11 @@ import java.lang.reflect.Constructor;
 import java.lang.reflect.Field;
 import java.lang.reflect.Method;
 import java.lang.reflect.Modifier;
-import java.nio.file.Files;
-import java.nio.file.Path;
 import java.util.Arrays;
 import java.util.Set;
 import java.util.TreeSet;
-import java.util.regex.Matcher;
-import java.util.regex.Pattern;
 
-/** The public face, by reflection, and some rules of LANGUAGE.md, by a look at the source. */
+/** The public face, and what else may be seen of the classes, by reflection. */
 public final class FaceTest {
     private static final String[] FACE = {
         "int deck(int, int) IllegalArgumentException",
@@ -103,31 +99,7 @@ public final class FaceTest {
         }
     }
 
-    private static void source() throws java.io.IOException {
-        String text = Files.readString(Path.of("src/main/java/Patiencery.java"));
-        for (char c : text.toCharArray()) {
-            right(c < 128, "a sign above 127: " + c);
-        }
-        String code = text.replaceAll("(?s)/\\*.*?\\*/", "").replaceAll("//[^\n]*", "").replaceAll("\"[^\"\n]*\"", "\"\"");
-        String[] never = {"->", "::", "\\bcatch\\b", "\\bfinally\\b", "\\btry\\b", "\\bsynchronized\\b", "\\bassert\\b",
-            "\\bpackage\\b", "\\bdouble\\b", "\\bfloat\\b", "\\bString\\b", "\\bMath\\.\\w*Exact\\b", "\\bequals\\b",
-            "\\bhashCode\\b", "\\btoString\\b", "\\bprotected\\b", "\\bSystem\\.(?!arraycopy\\b)", "\\bRandom\\b",
-            "\\bThread\\b", "\\bvar\\b", "@", "\\bstatic\\s*\\{", "\\bjava\\.(?!util\\.Arrays;)"};
-        for (String word : never) {
-            Matcher m = Pattern.compile(word).matcher(code);
-            right(!m.find(), "the source holds " + word);
-        }
-        Matcher made = Pattern.compile("\\bnew\\s+(\\w+)").matcher(code);
-        Set<String> known = Set.of("Rules", "Table", "Shelf", "Searcher", "Drawing", "int", "long",
-            "IllegalArgumentException", "IllegalStateException", "IndexOutOfBoundsException");
-        while (made.find()) {
-            right(known.contains(made.group(1)), "the source makes a " + made.group(1));
-        }
-        Matcher fixed = Pattern.compile("\\bstatic\\s+(?!final\\b)\\w+(\\[\\])?\\s+\\w+\\s*[=;,]").matcher(code);
-        right(!fixed.find(), "a static field that is not final");
-    }
-
-    public static void main(String[] args) throws java.io.IOException {
+    public static void main(String[] args) {
         right(Modifier.isPublic(Patiencery.class.getModifiers()) && Modifier.isFinal(Patiencery.class.getModifiers()),
             "Patiencery is public and final");
         right(Patiencery.class.getPackageName().isEmpty(), "Patiencery has no package");
@@ -135,7 +107,6 @@ public final class FaceTest {
         Set<String> got = face();
         right(got.equals(due), "the face is " + got);
         privateNames();
-        source();
         System.out.println("FaceTest: " + (wrong == 0 ? "the face is as told" : wrong + " wrong"));
         if (wrong != 0) {
             System.exit(1);
